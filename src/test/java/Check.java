@@ -3,11 +3,33 @@ final class Check {
     private static final int SHOWN = 40;
 
     private final String name;
+    private String sentence = "";
+    private int sentences;
+    private int looksBefore;
     private int looks;
     private int wrong;
 
     Check(String name) {
         this.name = name;
+    }
+
+    /** A call whose answer, or whose exception, two desks may be compared by. */
+    interface Call {
+        Object on(PermutationDesk desk);
+    }
+
+    /** What follows, up to the next sentence, looks at this one of the document. */
+    void sentence(String words) {
+        endSentence();
+        sentence = words;
+        sentences++;
+    }
+
+    private void endSentence() {
+        if (sentences > 0 && looks == looksBefore) {
+            tell("nothing looks at this sentence");
+        }
+        looksBefore = looks;
     }
 
     void same(String what, long got, long want) {
@@ -51,12 +73,23 @@ final class Check {
         fails(what, IndexOutOfBoundsException.class, call);
     }
 
+    /** What a call answers, or the name of what it throws. */
+    static String answer(PermutationDesk desk, Call call) {
+        try {
+            return "" + call.on(desk);
+        } catch (RuntimeException e) {
+            return e.getClass().getSimpleName();
+        }
+    }
+
     boolean isRight() {
         return wrong == 0;
     }
 
     void end() {
-        System.out.println(name + ": " + looks + " looked at, " + wrong + " wrong");
+        endSentence();
+        String of = sentences == 0 ? "" : " for " + sentences + " sentences";
+        System.out.println(name + ": " + looks + " looked at" + of + ", " + wrong + " wrong");
         if (wrong != 0 || looks == 0) {
             System.exit(1);
         }
@@ -65,7 +98,7 @@ final class Check {
     private void tell(String what) {
         wrong++;
         if (wrong <= SHOWN) {
-            System.out.println(name + ": " + what);
+            System.out.println(name + ": " + what + (sentence.isEmpty() ? "" : "; the document: " + sentence));
         }
     }
 

@@ -29,6 +29,9 @@ public final class FaceTests {
     /** The room has 7.3 million fields and elements; this is far below it, and far above what a run needs. */
     private static final long MOST_BYTES = 1_000_000;
 
+    /** With those before them that make the desk ready, some 500: one desk takes 512. */
+    private static final int CALLS = 450;
+
     private static final Check check = new Check("FaceTests");
 
     public static void main(String[] args) {
@@ -89,11 +92,11 @@ public final class FaceTests {
         Check.images(desk, "(0246135)", "(02)");
         call.on(desk);
         long before = bean.getThreadAllocatedBytes(thread);
-        for (int k = 0; k < 480; k++) {
+        for (int k = 0; k < CALLS; k++) {
             call.on(desk);
         }
         long taken = bean.getThreadAllocatedBytes(thread) - before;
-        check.yes("room of 480 calls of " + name + ": " + taken + " bytes", taken < (name.equals("new") ? 4 : 1) * MOST_BYTES);
+        check.yes("room of " + CALLS + " calls of " + name + ": " + taken + " bytes", taken < (name.equals("new") ? 4 : 1) * MOST_BYTES);
     }
 
     private static void callKernel(PermutationDesk desk) {

@@ -92,8 +92,8 @@ public final class PromiseTests {
             {"[(012),(034)]", "30214"}, {"{{{{a}}}}", "12340"}, {"[{[{a},b]},b]", "12034"},
             {"{a}{b}{a}", "13402"}, {"[a,b][a,b][a,b]", "01234"}, {"()()()()()()()()()()()()", "01234"},
             {"bbbbbbbbbbbbbbbbbbbbbbbb", "01234"}, {"a'''''''''''''''''''''''", "40123"}};
-        PermutationDesk desk = Check.desk(5, "(01234)", "(01)");
         for (String[] row : rows) {
+            PermutationDesk desk = Check.desk(5, "(01234)", "(01)");
             check.text("4: " + row[0], Check.values(desk, 5, row[0]), row[1]);
         }
         check.text("4: six letters", Check.values(Check.desk(7, "(01)", "(12)", "(23)", "(34)", "(45)", "(56)"),
@@ -109,12 +109,12 @@ public final class PromiseTests {
             "[a,b}", "[a b]", "{", "}", "{}", "{a", "a}", "{a]", "{a,b}", "a,b", ",", "a,", "{{{{{a}}}}}",
             "[[[[[a,b],b],b],b],b]", "[a,{{{{b}}}}]", "{[a,[a,{[a,b]}]]}", "a*b", "[a',^2]", "{a}}", "a(", "a[", "a{",
             "~", "(/)", "(:)"};
-        PermutationDesk desk = Check.desk(5, "(01234)", "(01)");
         for (String text : texts) {
-            check.argument("4: " + text, () -> Check.write(desk, text).value(0));
-            check.argument("4: a wrong text before a wrong point, " + text, () -> desk.value(5));
+            PermutationDesk wrong = Check.desk(5, "(01234)", "(01)");
+            check.argument("4: " + text, () -> Check.write(wrong, text).value(0));
+            check.argument("4: a wrong text before a wrong point, " + text, () -> wrong.value(5));
         }
-        Check.write(desk, "a");
+        PermutationDesk desk = Check.write(Check.desk(5, "(01234)", "(01)"), "a");
         for (int point : new int[] {-1, 5, 6, 7, 16, Integer.MIN_VALUE, Integer.MAX_VALUE}) {
             check.index("4: point " + point, () -> desk.value(point));
         }

@@ -5,6 +5,7 @@ import java.util.Map;
 import java.util.TreeMap;
 import java.util.TreeSet;
 import java.util.function.IntPredicate;
+import java.util.regex.Pattern;
 
 /**
  * The document's words taken as they stand: groups are sets of all their elements, and a text is tried
@@ -12,6 +13,9 @@ import java.util.function.IntPredicate;
  */
 final class ReferenceDesk {
     private static final int NO_ELEMENT = -1;
+    private static final Pattern POWER = Pattern.compile(".*\\^[0-9]");
+    private static final Pattern LETTER = Pattern.compile("[a-f]");
+    private static final Pattern CYCLE = Pattern.compile("\\([0-6]*\\)");
 
     final int degree;
     String text = "";
@@ -304,7 +308,7 @@ final class ReferenceDesk {
             int x = factor(s.substring(0, length - 1), brackets);
             return x == NO_ELEMENT ? x : inverse(x);
         }
-        if (s.matches(".*\\^[0-9]")) {
+        if (POWER.matcher(s).matches()) {
             int x = factor(s.substring(0, length - 2), brackets);
             return x == NO_ELEMENT ? x : power(x, s.charAt(length - 1) - '0');
         }
@@ -316,11 +320,11 @@ final class ReferenceDesk {
     }
 
     private int primary(String s, int brackets) {
-        if (s.matches("[a-f]")) {
+        if (LETTER.matcher(s).matches()) {
             int k = s.charAt(0) - 'a';
             return k < generators.size() ? generators.get(k) : NO_ELEMENT;
         }
-        if (s.matches("\\([0-6]*\\)")) {
+        if (CYCLE.matcher(s).matches()) {
             return cycle(s.substring(1, s.length() - 1));
         }
         if (brackets == 4 || s.length() < 3) {
