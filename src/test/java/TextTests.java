@@ -2,8 +2,8 @@ import java.util.ArrayList;
 import java.util.List;
 
 /**
- * Where the grammar ends: all short texts, and all texts that are one character away from a long right one, on the
- * program and on the slow reference beside it.
+ * Where the grammar ends: all short texts of some characters, and those that are one such character away from a long
+ * right one, on the program and on the slow reference beside it.
  */
 public final class TextTests {
     private static final Check check = new Check("TextTests");
